@@ -22,6 +22,10 @@ public final class SentenceTest {
         int on(LinkForest x, int node);
     }
 
+    private interface Due {
+        int at(int number);
+    }
+
     private interface Maker {
         LinkForest make();
     }
@@ -197,7 +201,31 @@ public final class SentenceTest {
         lastCallDue("leastUp(23)", firstValue(23), x -> x.leastUp(23));
         lastCallDue("meet(23, 20)", 20, x -> x.meet(23, 20));
         lastCallDue("sumPart(1)", sumOfFirst(1, 23), x -> x.sumPart(1));
+        used512TimesForOneThing();
         changesInCall511();
+    }
+
+    // The answer that is due may hang on the number of the call, which counts from 1.
+    private static void allCallsDue(String text, Due want, NodeCall call) {
+        LinkForest x = new LinkForest();
+        for (int number = 1; number <= CALLS; number++) {
+            due("call " + number + ": " + text, call.on(x, number), want.at(number));
+        }
+    }
+
+    private static void used512TimesForOneThing() {
+        allCallsDue("link(1, 0)", number -> number == 1 ? 0 : -1, (x, number) -> x.link(1, 0));
+        allCallsDue("cut(23)", number -> -1, (x, number) -> x.cut(23));
+        allCallsDue("turn(23)", number -> 23, (x, number) -> x.turn(23));
+        allCallsDue("set(23, number)", number -> number - 1, (x, number) -> x.set(23, number));
+        allCallsDue("paint(23, number)", number -> 1, (x, number) -> x.paint(23, number));
+        allCallsDue("root(23)", number -> 23, (x, number) -> x.root(23));
+        allCallsDue("parent(23)", number -> -1, (x, number) -> x.parent(23));
+        allCallsDue("depth(23)", number -> 0, (x, number) -> x.depth(23));
+        allCallsDue("sumUp(23)", number -> 0, (x, number) -> x.sumUp(23));
+        allCallsDue("leastUp(23)", number -> 0, (x, number) -> x.leastUp(23));
+        allCallsDue("meet(23, 23)", number -> 23, (x, number) -> x.meet(23, 23));
+        allCallsDue("sumPart(23)", number -> 0, (x, number) -> x.sumPart(23));
     }
 
     private static void changesInCall511() {
@@ -587,10 +615,10 @@ public final class SentenceTest {
         due("root with others below: paint(0, 5)", grove().paint(0, 5), 1);
         due("way of four: paint(5, 5)", grove().paint(5, 5), 4);
         due("longest way: paint(23, 5)", row().paint(23, 5), 24);
-        due("values that are the same already: paint(23, 0)", fresh(row()).paint(23, 0), 24);
+        due("values that are the same already: paint(23, 0)", allZero(row()).paint(23, 0), 24);
     }
 
-    private static LinkForest fresh(LinkForest x) {
+    private static LinkForest allZero(LinkForest x) {
         for (int node = 0; node < NODES; node++) {
             x.set(node, 0);
         }
@@ -606,11 +634,24 @@ public final class SentenceTest {
                 due(call, x.set(node, 1), node <= painted ? -4 : firstValue(node));
             }
         }
+        paintedInGrove(5, 5, 3, 1, 0);
+        paintedInGrove(3, 3, 1, 0);
+        paintedInGrove(4, 4, 1, 0);
+        paintedInGrove(1, 1, 0);
+        paintedInGrove(2, 2, 0);
+        paintedInGrove(0, 0);
+        paintedInGrove(6, 6);
+        paintedInGrove(21, 21, 22, 23);
+    }
+
+    private static void paintedInGrove(int painted, int... way) {
         LinkForest x = grove();
-        x.paint(5, MIN);
+        x.paint(painted, MIN);
         for (int node = 0; node < NODES; node++) {
-            boolean onWay = node == 5 || node == 3 || node == 1 || node == 0;
-            due("grove, after paint(5, MIN): set(" + node + ", 1)", x.set(node, 1), onWay ? MIN : firstValue(node));
+            int on = node;
+            boolean isOnWay = java.util.Arrays.stream(way).anyMatch(each -> each == on);
+            String call = "grove, after paint(" + painted + ", MIN): set(" + node + ", 1)";
+            due(call, x.set(node, 1), isOnWay ? MIN : firstValue(node));
         }
     }
 
@@ -753,7 +794,7 @@ public final class SentenceTest {
         }
     }
 
-    // The doc says of questions only what they answer: nothing may change by them.
+    // Of questions the document says only what they answer: nothing may change by them.
     private static void questionsChangeNothing() {
         for (Maker forest : forests()) {
             for (int node = 0; node < NODES; node++) {
