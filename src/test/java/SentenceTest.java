@@ -1,3 +1,6 @@
+import java.io.IOException;
+import java.nio.file.Files;
+import java.nio.file.Path;
 import java.util.ArrayList;
 import java.util.List;
 
@@ -30,6 +33,7 @@ public final class SentenceTest {
         LinkForest make();
     }
 
+    private static String document = "";
     private static String sentence = "";
     private static int sentences = 0;
     private static int wrong = 0;
@@ -37,7 +41,20 @@ public final class SentenceTest {
     private static void holds(String where, String words, Runnable test) {
         sentence = where + ": \"" + words + "\"";
         sentences++;
+        if (!sectionOf(where).contains(words)) {
+            wrong++;
+            System.out.println(sentence + " does not stand in the document");
+        }
         test.run();
+    }
+
+    private static String sectionOf(String where) {
+        for (String section : document.split("## ")) {
+            if (section.startsWith(where + " ") || section.startsWith(where + ": ")) {
+                return section;
+            }
+        }
+        return "";
     }
 
     private static void due(String call, int got, int want) {
@@ -205,27 +222,33 @@ public final class SentenceTest {
         changesInCall511();
     }
 
-    // The answer that is due may hang on the number of the call, which counts from 1.
-    private static void allCallsDue(String text, Due want, NodeCall call) {
+    // The answer that is due may hang on the number of the call, which counts from 1; the first call
+    // makes node 23 unlike node 0, so that an answer for the wrong one of them shows.
+    private static void allCallsDue(String text, Call first, Due want, NodeCall call) {
         LinkForest x = new LinkForest();
-        for (int number = 1; number <= CALLS; number++) {
+        due("call 1", first.on(x), 0);
+        for (int number = 2; number <= CALLS; number++) {
             due("call " + number + ": " + text, call.on(x, number), want.at(number));
         }
     }
 
     private static void used512TimesForOneThing() {
-        allCallsDue("link(1, 0)", number -> number == 1 ? 0 : -1, (x, number) -> x.link(1, 0));
-        allCallsDue("cut(23)", number -> -1, (x, number) -> x.cut(23));
-        allCallsDue("turn(23)", number -> 23, (x, number) -> x.turn(23));
-        allCallsDue("set(23, number)", number -> number - 1, (x, number) -> x.set(23, number));
-        allCallsDue("paint(23, number)", number -> 1, (x, number) -> x.paint(23, number));
-        allCallsDue("root(23)", number -> 23, (x, number) -> x.root(23));
-        allCallsDue("parent(23)", number -> -1, (x, number) -> x.parent(23));
-        allCallsDue("depth(23)", number -> 0, (x, number) -> x.depth(23));
-        allCallsDue("sumUp(23)", number -> 0, (x, number) -> x.sumUp(23));
-        allCallsDue("leastUp(23)", number -> 0, (x, number) -> x.leastUp(23));
-        allCallsDue("meet(23, 23)", number -> 23, (x, number) -> x.meet(23, 23));
-        allCallsDue("sumPart(23)", number -> 0, (x, number) -> x.sumPart(23));
+        Call link = x -> x.link(23, 22);
+        Call set = x -> x.set(23, 1);
+        allCallsDue("link(23, 21)", link, number -> -1, (x, number) -> x.link(23, 21));
+        allCallsDue("cut(1), at last cut(23)", link, number -> number < CALLS ? -1 : 22,
+            (x, number) -> x.cut(number < CALLS ? 1 : 23));
+        allCallsDue("turn(23) and turn(22)", link, number -> number % 2 == 0 ? 22 : 23,
+            (x, number) -> x.turn(number % 2 == 0 ? 23 : 22));
+        allCallsDue("set(23, number)", set, number -> number - 1, (x, number) -> x.set(23, number));
+        allCallsDue("paint(23, number)", link, number -> 2, (x, number) -> x.paint(23, number));
+        allCallsDue("root(23)", link, number -> 22, (x, number) -> x.root(23));
+        allCallsDue("parent(23)", link, number -> 22, (x, number) -> x.parent(23));
+        allCallsDue("depth(23)", link, number -> 1, (x, number) -> x.depth(23));
+        allCallsDue("sumUp(23)", set, number -> 1, (x, number) -> x.sumUp(23));
+        allCallsDue("leastUp(23)", set, number -> 1, (x, number) -> x.leastUp(23));
+        allCallsDue("meet(23, 23)", link, number -> 23, (x, number) -> x.meet(23, 23));
+        allCallsDue("sumPart(23)", set, number -> 1, (x, number) -> x.sumPart(23));
     }
 
     private static void changesInCall511() {
@@ -865,7 +888,8 @@ public final class SentenceTest {
             SentenceTest::questionsChangeNothing);
     }
 
-    public static void main(String[] args) {
+    public static void main(String[] args) throws IOException {
+        document = Files.readString(Path.of("../shared/DOC.md")).replaceAll("\\s+", " ");
         termsHold();
         changesHold();
         questionsHold();
